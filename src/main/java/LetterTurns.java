@@ -404,11 +404,9 @@ public final class LetterTurns {
     }
 
     private long withBook(long h, int book) {
-        long sum = h;
-        for (int what = 0; what <= 3; what++) {
-            sum = with(sum, about(book, what));
-        }
         Book told = books[book];
+        long sum = with(with(h, told.acts), told.follow[0] & 1);
+        sum = with(with(sum, machineOf(book).places), told.endings());
         for (int a = 1; a <= told.acts; a++) {
             sum = with(sum, told.code[a]);
         }
@@ -1102,6 +1100,7 @@ public final class LetterTurns {
         private final boolean[] seated = new boolean[OFFICES];
         private final int[] follow = new int[OFFICES * PLACES];
         private final int[] number = new int[OFFICES * PLACES];
+        /** Of each office its acts that are waits, as bits; an end's bit is never among them. */
         private final int[] waits = new int[OFFICES];
 
         void give(int office, Book book) {
@@ -1193,7 +1192,7 @@ public final class LetterTurns {
         int list(long state) {
             listed = 0;
             for (int office = 0; office < OFFICES; office++) {
-                int may = follow[PLACES * office + placeIn(state, office)];
+                int may = mayAt(state, office);
                 for (int act = 1; act <= ACTS && may >>> act != 0; act++) {
                     if ((may >>> act & 1) != 0) {
                         listAct(state, office, act);
@@ -1235,15 +1234,18 @@ public final class LetterTurns {
         /** What can be seen of a state itself, a bit each; FOREVER cannot. */
         int marks(long state, int steps) {
             boolean ended = true;
-            boolean wrong = false;
+            int seen = 0;
             for (int office = 0; office < OFFICES; office++) {
                 if (seated[office]) {
-                    ended &= (mayAt(state, office) & 1) != 0;
-                    wrong |= isWrong(state, office);
+                    int may = mayAt(state, office);
+                    boolean waiting = (may & ~waits[office]) == 0;
+                    boolean wrong = waiting && (isBarred(state, office, may, (office + 1) % OFFICES)
+                            || isBarred(state, office, may, (office + 2) % OFFICES));
+                    ended &= (may & 1) != 0;
+                    seen |= wrong ? 1 << WRONG : 0;
                 }
             }
             boolean empty = state >>> POSTS_FROM == 0;
-            int seen = wrong ? 1 << WRONG : 0;
             if (ended && empty) {
                 return seen | 1 << DONE;
             }
@@ -1257,21 +1259,9 @@ public final class LetterTurns {
             return follow[PLACES * office + placeIn(state, office)];
         }
 
-        private boolean isWrong(long state, int office) {
-            int may = mayAt(state, office);
-            if (may == 0 || (may & 1) != 0 || (may & ~waits[office]) != 0) {
-                return false;
-            }
-            for (int from = 0; from < OFFICES; from++) {
-                if (from != office && isBarred(state, office, may, postOf(from, office))) {
-                    return true;
-                }
-            }
-            return false;
-        }
-
-        /** Whether letters lie in a post for which is waited, but none that can be read. */
-        private boolean isBarred(long state, int office, int may, int post) {
+        /** Whether an office is waited for whose letters lie there, but none that can be read. */
+        private boolean isBarred(long state, int office, int may, int from) {
+            int post = postOf(from, office);
             int content = contentIn(state, post);
             if (content == 0) {
                 return false;

@@ -97,6 +97,7 @@ public final class FaceTest {
             check(fields <= 20, c + " has " + fields + " fields");
             for (Method m : c.getDeclaredMethods()) {
                 check(m.getParameterCount() <= 7, m + " has too many parameters");
+                check(c == LetterTurns.class || FACE.stream().noneMatch(f -> f.contains(" " + m.getName() + "(")), m + " bears a name of the face");
             }
         }
     }
