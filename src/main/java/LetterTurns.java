@@ -760,10 +760,9 @@ public final class LetterTurns {
             addItem(first, last, idle || loop);
         }
 
+        /** An act that is left out adds nothing to its row: it is done by doing nothing. */
         private void addAct(int told) {
-            if (told == NONE) {
-                addItem(0, 0, true);
-            } else if (acts < ACTS) {
+            if (told != NONE && acts < ACTS) {
                 acts++;
                 code[acts] = told;
                 addItem(1 << acts, 1 << acts, false);

@@ -2,6 +2,10 @@
 public final class PromiseTest {
     private static final int NONE = -1, SPENT = -2, UNKNOWN = -101, OUTSIDE = -102, STATE = -103, FULL = -104;
 
+    /** A text of 60 signs whose machine needs many places. */
+    private static final String MANY = "{!1b;!1b;!1b;!1b;!1b;{!1b;{!1b+{!1a}*};!1b};!1b}*;!1a;{!1b}*";
+    private static final String CHAIN = "!1a;!1a;!1a;!1a;!1a;!1a;!1a;!1a;!1a;!1a;!1a;!1a;!1a;!1a;!1a";
+
     private static int wrong;
     private static int looked;
     private static String about = "";
@@ -30,6 +34,7 @@ public final class PromiseTest {
         begin();
         steps();
         stepsOfKinds();
+        stepsOfMany();
         stepAndGo();
         run();
         at();
@@ -369,6 +374,8 @@ public final class PromiseTest {
         due("fewest of what must be remembered", about("{!0a+!0b}*;!0a;{!0a+!0b};{!0a+!0b};{!0a+!0b};{!0a+!0b}", 2), 32);
         due("a send is no wait", about("{!0a;!0b+?0a;!0b}", 2), 3);
         due("loops of 3, 4 and 5", about("{{!1a;!1a;!1a}*+{!1a;!1a;!1a;!1a}*+{!1a;!1a;!1a;!1a;!1a}*}", 2), 60);
+        due("fewest of many sets", about(MANY, 2), 131);
+        due("fewest of many sets", about("{!1a;!1a;{!1a+!1a;{!1a}+!1b};!1a;{!1a;!1a;!1a+!1b};!1a+!1b}*", 2), 123);
         LetterTurns x = new LetterTurns();
         due("about(0, 0)", x.about(0, 0), UNKNOWN);
         due("UNKNOWN ahead of OUTSIDE", x.about(0, 9), UNKNOWN);
@@ -431,6 +438,8 @@ public final class PromiseTest {
         due("a loop and none of it", same("{!0a}*", "!0a;{!0a}*"), 0);
         due("a loop written out", same("!0a;{!1b;!0a}*", "{!0a;!1b}*;!0a"), 1);
         due("loops of choices", same("{!0a+!0b}*", "{!0a}*;{!0b;{!0a}*}*"), 1);
+        due("many places", same(MANY, MANY.replace("{!1b+{!1a}*}", "{{!1a}*+!1b}")), 1);
+        due("many places and a few", same(MANY, "{!1a+!1b}*"), 0);
         due("loops of 2 and 4", same("{!0a;!0a}*", "{!0a;!0a;!0a;!0a}*"), 0);
         LetterTurns x = new LetterTurns();
         book(x, "!0a");
@@ -476,6 +485,13 @@ public final class PromiseTest {
         due("apart(6, 7, 0)", x.apart(6, 7, 0), 7);
         due("apart(6, 7, 16)", x.apart(6, 7, 16), 10);
         longRow();
+        LetterTurns y = new LetterTurns();
+        book(y, "{!1a;!1b}*");
+        book(y, "{!1d;!1d;!1d}*");
+        due("where the second is lost", y.apart(0, 1, 0), 2);
+        due("and the first is", y.apart(1, 0, 0), 2);
+        due("apart(0, 1, 11)", y.apart(0, 1, 11), 11);
+        due("apart(1, 0, 1)", y.apart(1, 0, 1), 0);
     }
 
     /** One letter alone, so that loops can be told apart by how often it comes. */
@@ -685,6 +701,28 @@ public final class PromiseTest {
         due("at(1)", x.at(1), 1);
         due("go(0)", x.go(0), 102);
         due("it is gone", x.lies(0, 1, 0), NONE);
+    }
+
+    private static void stepsOfMany() {
+        of("20 steps of many acts");
+        String to12 = "{!1a+!1b+!1c+!1d+!2a+!2b+!2c+!2d+!1a+!1b+!1c+!1d+!2a+!2b}*";
+        LetterTurns x = talk(to12, to12.replace('1', '0'), to12.replace('1', '0').replace('2', '1'));
+        for (int from = 0; from < 3; from++) {
+            x.post(from, (from + 1) % 3, 3);
+            x.post(from, (from + 2) % 3, 3);
+        }
+        due("steps()", x.steps(), 84);
+        due("step(83)", x.step(83), 1214);
+        due("go(83)", x.go(83), 1214);
+        due("met()", x.met(), SPENT);
+        LetterTurns y = talk(CHAIN, "{?0a}*");
+        due("15 acts", y.run(9, 200), 30);
+        due("at(0)", y.at(0), 15);
+        due("now(4)", y.now(4), 1);
+        LetterTurns z = talk(CHAIN, CHAIN.substring(0, 56).replace("!1", "?0") + "?0b");
+        due("the 15th is wrong", z.find(2, 0), 1);
+        due("find(2, 1)", z.find(2, 1), 29);
+        mends(z, 0, 15, 1);
     }
 
     private static void stepAndGo() {
