@@ -35,9 +35,9 @@ public final class LetterTurns {
     private int stepsDone;
     private final Survey survey = new Survey();
     private boolean surveyed;
-    private final Survey trial = new Survey();
     private boolean mendSought;
     private final int[] mended = {NONE, NONE, NONE};
+    private final int[] worth = new int[OFFICES];
     private int mendsDone;
 
     public LetterTurns() {
@@ -504,13 +504,16 @@ public final class LetterTurns {
         return survey;
     }
 
+    /** Tries take the survey's rows, so what is worth trying is asked ahead of all, and it is no more that of the talk. */
     private void seekMend() {
         Arrays.fill(mended, NONE);
         for (int office = 0; office < OFFICES; office++) {
-            int acts = seats[office] == NONE ? 0 : books[seats[office]].acts;
-            int worth = acts == 0 ? 0 : survey.worthMending(talk, office);
-            for (int act = 1; act <= acts; act++) {
-                if ((worth >>> act & 1) != 0 && mendsAct(office, act)) {
+            worth[office] = survey.worthMending(talk, office);
+        }
+        surveyed = false;
+        for (int office = 0; office < OFFICES; office++) {
+            for (int act = 1; act <= ACTS; act++) {
+                if ((worth[office] >>> act & 1) != 0 && mendsAct(office, act)) {
                     return;
                 }
             }
@@ -524,8 +527,8 @@ public final class LetterTurns {
         for (int letter = 0; letter < LETTERS && !found; letter++) {
             if (letter != was) {
                 talk.letter[spot] = letter;
-                trial.explore(talk, true);
-                if (trial.isSound()) {
+                survey.explore(talk, true);
+                if (survey.isSound()) {
                     mended[0] = office;
                     mended[1] = act;
                     mended[2] = letter;

@@ -1,14 +1,8 @@
 /** Each promise of the document by itself: ordinary inputs, the edges that it names, and wrong inputs. */
-public final class PromiseTest {
-    private static final int NONE = -1, SPENT = -2, UNKNOWN = -101, OUTSIDE = -102, STATE = -103, FULL = -104;
-
+public final class PromiseTest extends Desk {
     /** A text of 60 signs whose machine needs many places. */
     private static final String MANY = "{!1b;!1b;!1b;!1b;!1b;{!1b;{!1b+{!1a}*};!1b};!1b}*;!1a;{!1b}*";
     private static final String CHAIN = "!1a;!1a;!1a;!1a;!1a;!1a;!1a;!1a;!1a;!1a;!1a;!1a;!1a;!1a;!1a";
-
-    private static int wrong;
-    private static int looked;
-    private static String about = "";
 
     public static void main(String[] args) {
         newObject();
@@ -51,77 +45,7 @@ public final class PromiseTest {
         mendLimits();
         count();
         digest();
-        System.out.println("PromiseTest: " + (looked - wrong) + " answers as due, " + wrong + " not");
-        if (wrong != 0) {
-            System.exit(1);
-        }
-    }
-
-    // ---- help
-
-    private static void of(String what) {
-        about = what;
-    }
-
-    private static void due(String call, long got, long want) {
-        looked++;
-        if (got != want) {
-            wrong++;
-            System.out.println(about + ": " + call + " answered " + got + ", due is " + want);
-        }
-    }
-
-    private static long word(String text) {
-        long w = 0;
-        for (int i = text.length() - 1; i >= 0; i--) {
-            w = w << 8 | text.charAt(i);
-        }
-        return w;
-    }
-
-    private static int write(LetterTurns x, String text) {
-        int size = x.count(2);
-        for (int i = 0; i < text.length(); i += 8) {
-            size = x.letters(word(text.substring(i, Math.min(i + 8, text.length()))));
-        }
-        return size;
-    }
-
-    private static int book(LetterTurns x, String text) {
-        write(x, text);
-        int number = x.book();
-        x.blank();
-        return number;
-    }
-
-    private static int one(LetterTurns x, String text) {
-        write(x, text);
-        int number = x.one();
-        x.blank();
-        return number;
-    }
-
-    private static int fault(String text, int sort) {
-        LetterTurns x = new LetterTurns();
-        write(x, text);
-        return x.fault(sort);
-    }
-
-    /** A talk of these books; an empty text is none. */
-    private static LetterTurns talk(String... texts) {
-        LetterTurns x = new LetterTurns();
-        for (int office = 0; office < texts.length; office++) {
-            if (!texts[office].isEmpty()) {
-                due("seat(" + office + ") of " + texts[office], x.seat(office, book(x, texts[office])), NONE);
-            }
-        }
-        return x;
-    }
-
-    private static int watch(LetterTurns x, int book, String row) {
-        x.blank();
-        write(x, row);
-        return x.watch(book);
+        close("PromiseTest");
     }
 
     // ---- books
@@ -399,7 +323,7 @@ public final class PromiseTest {
         due("act(0, -1)", x.act(0, -1), UNKNOWN);
         due("act(1, 1)", x.act(1, 1), UNKNOWN);
         due("act(-1, 1)", x.act(-1, 1), UNKNOWN);
-        due("act(0, MAX)", x.act(0, Integer.MAX_VALUE), UNKNOWN);
+        due("act(0, MAX)", x.act(0, MAX), UNKNOWN);
     }
 
     private static void follow() {
@@ -733,10 +657,10 @@ public final class PromiseTest {
         x = talk("{!1a+!1b}*", "{?0a+?0b}*");
         due("step(-1)", x.step(-1), NONE);
         due("step(2)", x.step(2), NONE);
-        due("step(MIN)", x.step(Integer.MIN_VALUE), NONE);
+        due("step(MIN)", x.step(MIN), NONE);
         due("go(-1)", x.go(-1), STATE);
         due("go(2)", x.go(2), STATE);
-        due("go(MAX)", x.go(Integer.MAX_VALUE), STATE);
+        due("go(MAX)", x.go(MAX), STATE);
         due("count(3)", x.count(3), 0);
         due("step(1)", x.step(1), 2);
         due("count(3)", x.count(3), 0);
@@ -793,7 +717,7 @@ public final class PromiseTest {
         due("third", x.lies(0, 1, 2), 2);
         due("fourth", x.lies(0, 1, 3), NONE);
         due("-1", x.lies(0, 1, -1), NONE);
-        due("MAX", x.lies(0, 1, Integer.MAX_VALUE), NONE);
+        due("MAX", x.lies(0, 1, MAX), NONE);
         due("the way back", x.lies(1, 0, 0), NONE);
         due("lies(1, 1, 0)", x.lies(1, 1, 0), UNKNOWN);
         due("lies(3, 1, 0)", x.lies(3, 1, 0), UNKNOWN);
@@ -809,12 +733,6 @@ public final class PromiseTest {
         due("go(0)", x.go(0), 101);
         due("by letters", x.lies(0, 1, 1), 3);
         due("by letters", x.lies(0, 1, 2), NONE);
-    }
-
-    private static void nows(LetterTurns x, int... due) {
-        for (int what = 0; what < due.length; what++) {
-            due("now(" + what + ")", x.now(what), due[what]);
-        }
     }
 
     private static void now() {
@@ -839,12 +757,6 @@ public final class PromiseTest {
         nows(x, 1, 0, 0, 1, 0);
         x = spent();
         nows(x, 0, 0, 0, SPENT, 1);
-    }
-
-    private static LetterTurns spent() {
-        LetterTurns x = talk("{!1a+!1b+!1c+!1d+!2a+!2b}*", "{!0a+!0b+!0c+!0d+!2a+!2b}*", "{!0a+!0b+!0c+!0d}*");
-        x.room(3);
-        return x;
     }
 
     // ---- all states
@@ -996,12 +908,6 @@ public final class PromiseTest {
         due("ping and pong", talk("{!1a;?1a}*", "{?0a;!0a}*").most(0, 1), 1);
         due("spent", spent().most(0, 1), SPENT);
         due("UNKNOWN ahead of it", spent().most(1, 1), UNKNOWN);
-    }
-
-    private static void mends(LetterTurns x, int office, int act, int letter) {
-        due("mend(0)", x.mend(0), office);
-        due("mend(1)", x.mend(1), act);
-        due("mend(2)", x.mend(2), letter);
     }
 
     private static void mend() {
