@@ -38,6 +38,8 @@ public final class StateBoundsTest extends Desk {
         mendRefused();
         mendSixTimes();
         mendLeast();
+        mendOfWrong();
+        mendOfForever();
         mendThereAlone();
         mendOfNone();
         mendNotSought();
@@ -639,6 +641,45 @@ public final class StateBoundsTest extends Desk {
             x.post(0, 1, kind);
             mends(x, NONE, NONE, NONE);
         }
+    }
+
+    /** The end is reached from each state, but some are wrong on the way. */
+    private static void mendOfWrong() {
+        of("30 mend: wrong alone");
+        LetterTurns x = talk("!1b;!1a", "?0a;{?0a+?0b}");
+        x.post(0, 1, 1);
+        findAll(x, 0, 0, 1, 0, 1);
+        mends(x, 0, 1, 0);
+        LetterTurns y = talk("!1c", "{?2b;?0c+?0a;?2b}", "!1b");
+        // c, with or without b
+        findAll(y, 0, 0, 2, 0, 1);
+        mends(y, 1, 3, 2);
+    }
+
+    /** No state is stuck, orphan or wrong, but from all of them, or from some, no end can be reached. */
+    private static void mendOfForever() {
+        of("30 mend: forever alone");
+        LetterTurns x = talk("{!1a}*;?1b", "?0a;!0c;{?0a}*");
+        findAll(x, 0, 0, 0, x.met(), 0);
+        mends(x, 0, 2, 2);
+        LetterTurns y = talk("{!1a;{!1b}*;!1c}", "{?0a;{?0b}*;?0d}");
+        due("the third act of both is unlike", y.find(STUCK, 0) > 0 ? 1 : 0, 1);
+        mends(y, 0, 3, 3);
+        LetterTurns z = talk("{!1d+{!1a}*;?1b}", "{?0d+?0a;!0c;{?0a}*}");
+        int some = z.find(FOREVER, 0);
+        due("some, but not all", some > 0 && some < z.met() ? 1 : 0, 1);
+        findAll(z, 0, 0, 0, some, 1);
+        mends(z, 0, 3, 2);
+        of("30 mend: forever by an act that is done once, at the beginning");
+        LetterTurns w = talk("!1b;{!1a}*;?1c", "{?0b;{?0a}*+?0d;!0c;{?0a}*}");
+        findAll(w, 0, 0, 0, w.met(), 0);
+        mends(w, 0, 1, 3);
+        of("30 mend: as many wrong as forever");
+        LetterTurns v = talk("?1a", "{!0a+!0b};{!2c}*", "{?1c}*");
+        int wrong = v.find(WRONG, 0);
+        due("some, but not all", wrong > 0 && wrong < v.met() ? 1 : 0, 1);
+        findAll(v, 0, 0, wrong, wrong, v.find(DONE, 0));
+        mends(v, 1, 2, 0);
     }
 
     private static void mendThereAlone() {
