@@ -10,6 +10,7 @@ import java.nio.file.Path;
 import java.util.ArrayList;
 import java.util.Arrays;
 import java.util.List;
+import java.util.Map;
 import java.util.Set;
 import java.util.TreeSet;
 import java.util.regex.Matcher;
@@ -24,7 +25,8 @@ public final class FaceTest {
             "int as(int,int,int)", "int room(int)", "int begin()", "int steps()", "int step(int)", "int go(int)",
             "int run(int,int)", "int at(int)", "int lies(int,int,int)", "int now(int)", "int met()",
             "int find(int,int)", "int most(int,int)", "int mend(int)", "int count(int)", "long digest()");
-    private static final Set<String> CONSTANTS = Set.of("NONE", "SPENT", "UNKNOWN", "OUTSIDE", "STATE", "FULL");
+    private static final Map<String, Integer> CONSTANTS = Map.of(
+            "NONE", -1, "SPENT", -2, "UNKNOWN", -101, "OUTSIDE", -102, "STATE", -103, "FULL", -104);
     private static int wrong;
 
     public static void main(String[] args) throws Exception {
@@ -58,7 +60,7 @@ public final class FaceTest {
         return s + ")";
     }
 
-    private static void face() {
+    private static void face() throws Exception {
         Class<?> c = LetterTurns.class;
         check(Modifier.isPublic(c.getModifiers()) && Modifier.isFinal(c.getModifiers()), "public and final");
         Set<String> seen = new TreeSet<>();
@@ -78,9 +80,11 @@ public final class FaceTest {
             }
             if (!hidden(f)) {
                 constants.add(f.getName());
+                check(f.getType() == int.class && Modifier.isStatic(f.getModifiers()) && Modifier.isPublic(f.getModifiers())
+                        && CONSTANTS.getOrDefault(f.getName(), 0) == f.getInt(null), "a constant told otherwise: " + f);
             }
         }
-        check(constants.equals(new TreeSet<>(CONSTANTS)), "constants are " + constants);
+        check(constants.equals(CONSTANTS.keySet()), "constants are " + constants);
         Constructor<?>[] makers = c.getDeclaredConstructors();
         check(makers.length == 1 && Modifier.isPublic(makers[0].getModifiers()) && makers[0].getParameterCount() == 0, "one constructor");
     }
